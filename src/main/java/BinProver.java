@@ -975,6 +975,9 @@ public final class BinProver {
                 if (fullness[bin] <= most
                         && (chosen < 0 || isLiked(fullness[bin], fullness[chosen], way))) {
                     chosen = bin;
+                    if (way < 2) {
+                        return bin;
+                    }
                 }
             }
             return chosen;
@@ -987,9 +990,6 @@ public final class BinProver {
         int packAll(Lot lot, int ruleNumber) {
             things = 0;
             bins = 0;
-            for (int i = 0; i < held.length; i++) {
-                held[i] = 0;
-            }
             for (int i = 0; i < lot.kinds; i++) {
                 int sort = ruleNumber < WAYS ? i : lot.order[i];
                 for (int j = 0; j < lot.many[sort]; j++) {
@@ -1002,9 +1002,7 @@ public final class BinProver {
         private void packOne(int sort, int size, int capacity, int way) {
             int to = choose(full, bins, capacity - size, way);
             if (to == NONE && bins < THINGS) {
-                to = bins;
-                full[to] = 0;
-                bins++;
+                to = openBin();
             }
             if (to >= 0 && things < THINGS) {
                 full[to] += size;
@@ -1012,6 +1010,16 @@ public final class BinProver {
                 where[things] = to;
                 things++;
             }
+        }
+
+        /** Bins are emptied as they are opened: most packings need only a few of all there could be. */
+        private int openBin() {
+            full[bins] = 0;
+            for (int sort = 0; sort < KINDS; sort++) {
+                held[bins * KINDS + sort] = 0;
+            }
+            bins++;
+            return bins - 1;
         }
     }
 

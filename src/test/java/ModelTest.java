@@ -183,6 +183,10 @@ public final class ModelTest {
                 case "goods": call.set(draw.nextInt(30) == 0 ? 0 : 700 + draw.nextInt(50)); break;
                 default: call.set(what); break;
             }
+            if (draw.nextInt(25) == 0) {
+                int[] far = {Integer.MIN_VALUE, Integer.MAX_VALUE, -1, 1 << 16, 31, 32, 63, 99, 100, 700};
+                call.a[draw.nextInt(4)] = far[draw.nextInt(far.length)];
+            }
             return call;
         }
 
