@@ -14,6 +14,10 @@ import java.util.Set;
 /** Long runs of drawn calls, each answer held against a slow model that is written straight from the document. */
 public final class ModelTest {
     private static final int RUNS = 400;
+    /** Trees that are cut, found in twice, or end with just the 60th node. */
+    private static final String[] HARD = {"capacity 10;sort 3 4;sort 3 5;sort 4 8;sort 3 7;",
+        "capacity 31;sort 12 4;sort 10 4;sort 13 6;", "capacity 21;sort 8 5;sort 8 5;sort 6 9;",
+        "capacity 35;sort 14 9;sort 13 7;sort 10 6;sort 11 2;", "capacity 29;sort 3 3;sort 17 6;sort 12 4;"};
     private static int wrong = 0;
 
     public static void main(String[] args) {
@@ -32,7 +36,13 @@ public final class ModelTest {
         Model model = new Model();
         List<String> log = new ArrayList<>();
         int calls = 0;
-        while (calls < 500) {
+        if (run < HARD.length) {
+            calls += tell(real, model, HARD[run], draw, log);
+            for (int what = 0; what < 6; what++) {
+                check("tree " + what + " of " + HARD[run], real.tree(what), model.tree(what));
+            }
+        }
+        while (calls < 490) {
             if (calls == 0 || draw.nextInt(60) == 0) {
                 String text = draw.nextInt(4) == 0 ? spoil(draw, text(draw)) : text(draw);
                 calls += tell(real, model, text, draw, log);

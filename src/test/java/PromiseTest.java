@@ -403,6 +403,14 @@ public final class PromiseTest {
             due("tree of none " + what, none.tree(what), ofNone[what]);
             due("tree closed at once " + what, three.tree(what), atOnce[what]);
         }
+        int[] justEnds = {7, 1, 60, 39, 0, 4};
+        int[] isCut = {8, 0, 60, 42, 2, 9};
+        BinProver last = told("capacity 31;sort 12 4;sort 10 4;sort 13 6;");
+        BinProver cut = told("capacity 10;sort 3 4;sort 3 5;sort 4 8;sort 3 7;");
+        for (int what = 0; what < 6; what++) {
+            due("tree of 60 nodes " + what, last.tree(what), justEnds[what]);
+            due("tree that is cut " + what, cut.tree(what), isCut[what]);
+        }
         dueNoElement("tree 6", () -> x.tree(6));
         dueNoElement("tree -1", () -> x.tree(-1));
         promise = "17";
@@ -734,6 +742,10 @@ public final class PromiseTest {
         due("note", y.note(0, 1), 1);
         due("the first is of sort 0", y.other(1), 1);
         due("sizes 1 to 6", y.other(0), 6);
+        BinProver w = told("capacity 29;sort 3 3;sort 17 6;sort 12 4;");
+        due("note", w.note(0, 8), 1);
+        due("another rule tells more", w.look(0), 1);
+        due("unlike", w.look(1), 2);
         BinProver z = told("capacity 3;sort 3 2;sort 2 0;");
         due("note", z.note(0, 2), 1);
         due("size 2, or another of what isn't there", z.other(0), 3);
