@@ -98,7 +98,7 @@ public final class ModelTest {
         StringBuilder text = new StringBuilder();
         int capacity = 30;
         if (draw.nextInt(5) > 0) {
-            capacity = draw.nextInt(3) == 0 ? 1 + draw.nextInt(99) : 8 + draw.nextInt(40);
+            capacity = draw.nextInt(10) == 0 ? 99 : draw.nextInt(3) == 0 ? 1 + draw.nextInt(99) : 8 + draw.nextInt(40);
             text.append("capacity ").append(capacity).append(';');
         }
         int sorts = draw.nextInt(8) == 0 ? draw.nextInt(2) : 1 + draw.nextInt(6);

@@ -164,6 +164,13 @@ public final class PromiseTest {
         due("status stays", x.count(11), 1);
         due("undo", x.undo(), -1);
         due("the image is gone", x.restore() ? 1 : 0, 0);
+        // "sort 5 0012": what lies behind the first n bytes is no part of the text
+        x.feed(0x736f7274, 0x20352030, 0x30313220, 0x20202020, 0x20202020);
+        due("a number that is cut", x.goods(10), 1);
+        due("its place", x.fault(), 10);
+        x.feed(0x736f7274, 0x20352030, 0x3b202020, 0x20202020, 0x20202020);
+        due("a word that is cut", x.goods(3), 1);
+        due("its place", x.fault(), 0);
         due("no text at all", x.goods(0), 0);
         due("no sorts", x.count(1), 0);
     }
@@ -436,6 +443,14 @@ public final class PromiseTest {
             due("net " + what, x.net(what), want[what]);
             due("net of none " + what, none.net(what), ofNone[what]);
         }
+        int[] ofWide = {5, 4, 4, 2, 4, 4};
+        BinProver wide = told("capacity 99;sort 33 3;bin 0;");
+        for (int what = 0; what < 6; what++) {
+            due("net of the greatest capacity " + what, wide.net(what), ofWide[what]);
+        }
+        due("high at its end", wide.high(1, 99), 99);
+        due("high at its start", wide.high(0, 0), 0);
+        due("top up", wide.topUp(0, 0), 2);
         dueNoElement("net 6", () -> x.net(6));
         dueNoElement("net -1", () -> x.net(-1));
         promise = "19";
