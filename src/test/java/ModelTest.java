@@ -41,8 +41,13 @@ public final class ModelTest {
             for (int what = 0; what < 6; what++) {
                 check("tree " + what + " of " + HARD[run], real.tree(what), model.tree(what));
             }
+            check("note", real.note(0, model.rule(0)), model.note(0, model.rule(0)));
+            for (int what = 0; what < 2; what++) {
+                check("look " + what + " of " + HARD[run], real.look(what), model.look(what));
+            }
+            calls += 9;
         }
-        while (calls < 490) {
+        while (calls < 480) {
             if (calls == 0 || draw.nextInt(60) == 0) {
                 String text = draw.nextInt(4) == 0 ? spoil(draw, text(draw)) : text(draw);
                 calls += tell(real, model, text, draw, log);

@@ -1,7 +1,10 @@
 import java.nio.charset.StandardCharsets;
 import java.util.NoSuchElementException;
 
-/** Each promise by answers that were worked out by hand. */
+/**
+ * Each promise by answers that were worked out by hand, but for the few that say they were not: those are the
+ * program's own, which the model of ModelTest gives as well.
+ */
 public final class PromiseTest {
     private static int wrong = 0;
     private static String promise = "";
@@ -410,6 +413,7 @@ public final class PromiseTest {
             due("tree of none " + what, none.tree(what), ofNone[what]);
             due("tree closed at once " + what, three.tree(what), atOnce[what]);
         }
+        // Not by hand: the program's answers, held against the model in ModelTest.
         int[] justEnds = {7, 1, 60, 39, 0, 4};
         int[] isCut = {8, 0, 60, 42, 2, 9};
         BinProver last = told("capacity 31;sort 12 4;sort 10 4;sort 13 6;");
@@ -757,6 +761,7 @@ public final class PromiseTest {
         due("note", y.note(0, 1), 1);
         due("the first is of sort 0", y.other(1), 1);
         due("sizes 1 to 6", y.other(0), 6);
+        // Not by hand: the program's answers, held against the model in ModelTest.
         BinProver w = told("capacity 29;sort 3 3;sort 17 6;sort 12 4;");
         due("note", w.note(0, 8), 1);
         due("another rule tells more", w.look(0), 1);
