@@ -156,6 +156,9 @@ public final class ActEdgeTest {
         check.due("the first one stays", twelve.bin(0, 3), 1);
         check.due("the first of eleven", twelve.take(3, 0), 10);
         check.due("the others move", twelve.bin(0, 0), 1);
+        BinProver unlike = unlike();
+        check.due("the first of twelve", unlike.take(0, 0), 11);
+        check.dueAll("each is one less", unlike, (y, i) -> y.bin(i, -1), 2, 3, 4, 5, 6, 7, 8, 9, 10, 11, 12);
         check.promise(22, "One of a SORT is taken out of a BIN: how many BINS are there.");
         BinProver only = check.told("sort 5 11;bin 0;");
         check.due("none", only.take(0, 0), 0);
@@ -163,6 +166,15 @@ public final class ActEdgeTest {
         BinProver wide = check.told("capacity 99;sort 1 0;bin" + " 0".repeat(99) + ";");
         check.due("one of 99", wide.take(0, 0), 1);
         check.due("98", wide.bin(0, 0), 98);
+    }
+
+    /** Twelve bins of 1 to 12. */
+    private static BinProver unlike() {
+        StringBuilder text = new StringBuilder("sort 1 0;");
+        for (int i = 1; i <= 12; i++) {
+            text.append("bin").append(" 0".repeat(i)).append(';');
+        }
+        return check.told(text.toString());
     }
 
     private static void takeRefused() {
@@ -236,6 +248,13 @@ public final class ActEdgeTest {
         check.due("an act", x.count(7), 1);
         check.due("the last of it", x.load(), 13);
         check.due("no rest", x.count(2), 0);
+        // a tree of more sorts, asked ahead, leaves nothing behind
+        BinProver fewer = check.told("capacity 26;sort 5 3;sort 3 2;sort 8 3;sort 3 2;");
+        check.due("fewest", fewer.tree(0), 2);
+        check.due("goods", Check.tell(fewer, "capacity 12;sort 5 2;sort 4 1;sort 3 3;"), 0);
+        check.due("5 4 3", fewer.load(), 12);
+        check.due("rest of all", fewer.count(2), 3);
+        check.dueAll("rest", fewer, (y, i) -> y.sort(i, 1), 1, 0, 2);
         check.promise(24, "THE FIRST BIN of BEST is packed: SIZES in it together.");
         check.due("one thing", check.told("sort 5 1;").load(), 5);
         BinProver all = check.told("capacity 24;sort 1 12;sort 1 12;");
@@ -281,6 +300,9 @@ public final class ActEdgeTest {
         check.due("bins", last.count(3), 11);
         check.due("the last of eleven", last.bin(10, -1), 1);
         check.noElement("no bin 11", () -> last, z -> z.bin(11, -1));
+        BinProver unlike = unlike();
+        check.due("the first into the last of twelve", unlike.join(11, 0), 17);
+        check.dueAll("each is one less", unlike, (y2, i) -> y2.bin(i, -1), 2, 3, 4, 5, 6, 7, 8, 9, 10, 11, 13);
     }
 
     private static void joinRefused() {

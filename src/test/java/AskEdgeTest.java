@@ -55,6 +55,17 @@ public final class AskEdgeTest {
         check.due("no more than there are", check.told("capacity 99;sort 1 12;sort 2 12;bin 0;").topUp(0, 0), 12);
         check.due("98 free", check.told("capacity 99;sort 1 0;sort 98 2;bin 0;").topUp(0, 1), 1);
         check.due("97 free", check.told("capacity 99;sort 1 0;sort 98 2;bin 0 0;").topUp(0, 1), 0);
+        // 4 3 3 fill the 10 that are free; 5 4 don't
+        BinProver ten = check.told("capacity 12;sort 5 1;sort 4 1;sort 3 2;sort 2 0;bin 3;");
+        check.dueAll("without the greatest", ten, (y, i) -> y.topUp(0, i), 0, 1, 2, 0);
+        check.dueAll("a full one, and size 1", check.told("capacity 5;sort 5 0;sort 1 3;bin 0;"),
+                (y, i) -> y.topUp(0, i - 1), 0, 0, 0);
+        BinProver less = check.told("capacity 10;sort 3 1;sort 2 1;bin 0;");
+        check.dueAll("both", less, (y, i) -> y.topUp(0, i), 1, 1);
+        check.due("one goes", less.rest(0, 0), 1);
+        check.dueAll("the other one", less, (y, i) -> y.topUp(0, i), 0, 1);
+        check.due("the other one goes, too", less.rest(1, 0), 1);
+        check.dueAll("nothing", less, (y, i) -> y.topUp(0, i), 0, 0);
         check.promise(27, "NoSuchElementException: also no such SORT.");
         check.noElement("bin -1", AskEdgeTest::forTopUp, y -> y.topUp(-1, 0));
         check.noElement("bin 3", AskEdgeTest::forTopUp, y -> y.topUp(3, 0));
@@ -85,7 +96,13 @@ public final class AskEdgeTest {
         check.due("without rest", check.told("sort 9 0;").toHold(24), 1);
         check.due("of size 1", check.told("sort 1 12;sort 1 12;").toHold(24), 1);
         check.due("of size 1 in one", check.told("sort 1 12;sort 1 12;").toHold(1), 24);
+        check.due("the greatest is the first one, and one", check.told("sort 9 1;sort 1 1;").toHold(2), 9);
+        check.due("the greatest is the first one, and one", check.told("sort 9 1;sort 1 1;").toHold(24), 9);
         check.term(3, "by which FEWEST would be so many or fewer; none");
+        check.due("three of 5 in two, above what the sizes together need", check.told("sort 5 3;").toHold(2), 10);
+        check.due("7, 7 and 5 in two", forOther().toHold(2), 12);
+        check.due("three of 50 in two", check.told("capacity 50;sort 50 3;").toHold(2), -1);
+        check.due("three of 49 in two", check.told("capacity 50;sort 49 3;").toHold(2), 98);
         check.due("in one", three().toHold(1), 26);
         check.due("in two, by the tree alone", three().toHold(2), 13);
         check.due("in three", three().toHold(3), 9);
@@ -116,6 +133,7 @@ public final class AskEdgeTest {
         check.term(3, "CRITICAL are SORTS one of which less would make FEWEST less.");
         check.due("6 alone", three().count(5), 2);
         check.due("all of them", check.told("capacity 10;sort 3 2;sort 6 2;sort 4 1;").count(5), 7);
+        check.due("but none that isn't there", check.told("capacity 10;sort 10 0;sort 6 1;sort 5 1;").count(5), 6);
         check.due("none of them", check.told("capacity 10;sort 3 1;sort 4 1;").count(5), 0);
         check.due("of none", new BinProver().count(5), 0);
         BinProver x = three();
@@ -138,6 +156,10 @@ public final class AskEdgeTest {
         check.due("3", three().spare(0), 1);
         check.due("6", three().spare(1), 0);
         check.due("4", three().spare(2), 1);
+        check.due("the 12th is too much", check.told("capacity 12;sort 1 1;").spare(0), 11);
+        check.due("the 12th fits just", check.told("capacity 13;sort 1 1;").spare(0), 12);
+        check.due("the 24th of all is too much", check.told("capacity 23;sort 1 12;sort 1 11;").spare(0), 0);
+        check.due("the 24th of all fits just", check.told("capacity 24;sort 1 12;sort 1 11;").spare(0), 1);
         check.promise(29, "SPARE.");
         BinProver x = three();
         x.spare(0);
@@ -239,6 +261,10 @@ public final class AskEdgeTest {
         BinProver none = forOther();
         check.due("note", none.note(0, 24), 1);
         check.dueAll("none", none, BinProver::other, 0, -1, 0);
+        BinProver later = forOther();
+        check.due("there is one", later.other(1), 1);
+        check.due("note", later.note(0, 24), 1);
+        check.due("there is none any more", later.other(1), -1);
         check.dueAll("no sorts", new BinProver(), BinProver::other, 0, -1, 1);
         check.promise(31, "NoSuchElementException: another what.");
         check.noElement("-1", AskEdgeTest::forOther, y -> y.other(-1));
@@ -286,6 +312,12 @@ public final class AskEdgeTest {
         check.due("others", one.other(0), 11);
         check.due("another rule than the first", one.look(0), 1);
         check.due("3 and 4 bins", one.look(1), 2);
+        // 4 4 2 2 and 3 3 1 1: 3 and 2 by rule 5, 3 and 3 by those ahead of it
+        dueLook("capacity 4;sort 1 2;sort 4 2;", new int[] {3, 3, 3, 3}, 2, 5);
+        // 2 2 3 1 and 1 1 2 1: 3 and 2 by rule 4, 2 and 2 by those ahead of it
+        dueLook("capacity 4;sort 1 2;sort 3 1;sort 1 1;", new int[] {2}, 2, 4);
+        // not by hand: two models that were written apart from the class give the same
+        dueLook("capacity 13;sort 3 2;sort 3 1;sort 8 1;sort 4 1;", new int[] {2, 2, 2, 2, 3, 2, 2}, 2, 7);
         check.term(3, "which; how many unlike; none without any");
         check.due("note", x.note(0, 24), 2);
         check.due("none", x.look(0), -1);
@@ -305,6 +337,17 @@ public final class AskEdgeTest {
         for (int far : FAR) {
             check.noElement("what " + far, AskEdgeTest::forOther, y -> y.look(far));
         }
+    }
+
+    /** Rules 0, 1 .. gave so many bins: then there are so many others, and another rule gives two numbers by them. */
+    private static void dueLook(String text, int[] bins, int others, int rule) {
+        BinProver x = check.told(text);
+        for (int i = 0; i < bins.length; i++) {
+            check.due("note", x.note(i, bins[i]), i + 1);
+        }
+        check.due("others of " + text, x.other(0), others);
+        check.due("the rule of " + text, x.look(0), rule);
+        check.due("unlike ones of " + text, x.look(1), 2);
     }
 
     private static void forget() {
@@ -519,6 +562,21 @@ public final class AskEdgeTest {
         check.due("the act", x.undo(), 0);
         check.due("is undone", x.bin(0, -1), 3);
         check.due("no more acts", x.undo(), -1);
+        // 5 7 2 2 are 3 by rule 0, 2 by rule 1
+        for (int rule = 0; rule < 2; rule++) {
+            BinProver notes = check.told("capacity 10;sort 5 1;sort 7 1;sort 2 2;");
+            check.due("note", notes.note(rule, 3 - rule), 1);
+            notes.image();
+            notes.forget();
+            check.due("another rule", notes.note(1 - rule, 3 - rule), 1);
+            check.due("is not so", notes.other(2), 0);
+            check.due("restore", notes.restore() ? 1 : 0, 1);
+            check.due("the rule that was noted", notes.other(2), 1);
+            notes.forget();
+            check.due("another number", notes.note(rule, 24), 1);
+            check.due("restore", notes.restore() ? 1 : 0, 1);
+            check.due("the number that was noted", notes.other(2), 1);
+        }
         check.promise(36, "AN IMAGE is kept, in place of another one.");
         BinProver two = three();
         two.image();

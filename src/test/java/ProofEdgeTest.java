@@ -297,9 +297,19 @@ public final class ProofEdgeTest {
         check.due("below 0", check.told("capacity 10;sort 6 2;sort 3 1;").split(0), 2);
         check.due("far below 0", check.told("capacity 10;sort 6 12;").split(0), 12);
         check.due("just 0", check.told("capacity 10;sort 6 2;sort 4 2;").split(0), 2);
+        check.due("two sorts of ONE", check.told("capacity 10;sort 8 2;sort 9 3;").split(3), 5);
+        check.due("two sorts of TWO", check.told("capacity 10;sort 6 2;sort 7 3;").split(0), 5);
+        check.due("ONE ahead of TWO", check.told("capacity 10;sort 9 3;sort 6 2;").split(3), 5);
+        check.due("TWO ahead of ONE", check.told("capacity 10;sort 6 2;sort 9 3;").split(3), 5);
+        check.due("two sorts of THREE", check.told("capacity 10;sort 5 1;sort 4 4;").split(0), 3);
         check.due("1", check.told("capacity 10;sort 6 2;sort 4 1;sort 5 1;").split(0), 3);
         check.due("10", check.told("capacity 10;sort 6 1;sort 5 2;sort 4 1;").split(0), 2);
         check.due("11", check.told("capacity 10;sort 6 1;sort 5 3;").split(0), 3);
+        check.term(2, "by CAPACITY, rounded up");
+        check.due("20 by 10", check.told("capacity 10;sort 5 4;").split(0), 2);
+        check.due("21 by 10", check.told("capacity 10;sort 5 1;sort 4 4;").split(0), 3);
+        check.due("30 by 10", check.told("capacity 10;sort 5 6;").split(5), 3);
+        check.due("35 by 10", check.told("capacity 10;sort 5 7;").split(5), 4);
         check.promise(12, "SPLIT by A. IllegalArgumentException: A.");
         check.noArgument("-1", ProofEdgeTest::three, x -> x.split(-1));
         check.noArgument("6", ProofEdgeTest::three, x -> x.split(6));
@@ -328,6 +338,13 @@ public final class ProofEdgeTest {
         // 21 times 99 less 21: 98 of 99 counts 20 times 99, as 99 does
         check.due("the greatest by 20", check.told("capacity 99;sort 98 12;sort 99 12;").step(20), 24);
         check.due("the least by 20", check.told("capacity 99;sort 1 12;").step(20), 0);
+        check.term(2, "all together by K times CAPACITY, rounded up");
+        // each counts 1 by 1, then 2 by 3
+        check.due("just 12", check.told("capacity 10;sort 6 12;").step(1), 12);
+        check.due("24 by 3", check.told("capacity 10;sort 6 12;").step(3), 8);
+        check.due("22 by 3", check.told("capacity 10;sort 6 11;").step(3), 8);
+        check.due("20 by 3", check.told("capacity 10;sort 6 10;").step(3), 7);
+        check.due("18 by 3", check.told("capacity 10;sort 6 9;").step(3), 6);
         check.term(2, "STEP by K (1 to 20)");
         check.due("1", three().step(1), 2);
         // 21 times 6, 4, 3 by 10 are 12, 8, 6: twice 120, 80, 60 by 200
@@ -361,6 +378,10 @@ public final class ProofEdgeTest {
         check.dueAll("step", three(), (x, i) -> x.step(i + 1), 2, 2, 3);
         check.due("the greatest", three().bound(3), 3);
         check.due("the least K", three().bound(4), 3);
+        BinProver sixes = check.told("capacity 10;sort 6 3;");
+        check.dueAll("step", sixes, (x, i) -> x.step(i + 1), 3, 2, 2);
+        check.due("the greatest", sixes.bound(3), 3);
+        check.due("the least K is 1", sixes.bound(4), 1);
         // 20 times 2 is below 41, 21 times above: only by 20 each counts anything, 41 of 820
         BinProver many = check.told("capacity 41;sort 2 12;sort 2 9;");
         check.dueAll("step", many, (x, i) -> x.step(i + 1), 0, 0, 0, 0, 0, 0, 0, 0, 0, 0, 0, 0, 0, 0, 0, 0, 0, 0, 0, 2);
@@ -459,6 +480,23 @@ public final class ProofEdgeTest {
         check.dueAll("as many at once", three(), BinProver::tree, 3, 1, 1, 1, 0, 0);
         check.dueAll("one thing", check.told("sort 5 1;"), BinProver::tree, 1, 1, 1, 1, 0, 0);
         check.dueAll("24 bins", full(), BinProver::tree, 24, 1, 1, 1, 0, 0);
+        // by 8 the 12s leave nothing to the 8s: 5 at once
+        check.dueAll("by a split alone", check.told("capacity 19;sort 12 3;sort 2 2;sort 8 3;"), BinProver::tree,
+                5, 1, 1, 1, 0, 0);
+        // 4 by 5, which is half of 11, cut; 3 by any other A
+        check.dueAll("by the last split alone", check.told("capacity 11;sort 7 2;sort 5 3;"), BinProver::tree,
+                4, 1, 1, 1, 0, 0);
+        // by 20 a 4 counts 2 times 41 and a 2 once, of 20 times 41: 41 by 20; the area is just 2
+        BinProver last = check.told("capacity 41;sort 4 12;sort 4 5;sort 2 7;");
+        check.dueAll("bounds", last, BinProver::bound, 2, 2, 0, 3, 20, 3);
+        check.dueAll("by the last step alone", last, BinProver::tree, 3, 1, 1, 1, 0, 0);
+        check.dueAll("by a step alone", check.told("capacity 11;sort 4 5;"), BinProver::tree, 3, 1, 1, 1, 0, 0);
+        check.term(2, "BEST is at first the packing by RULE 5.");
+        // 12 1; 10 9 by rule 5, but 12; 10 9 1 by rules 4 and 6
+        BinProver first = check.told("capacity 20;sort 12 1;sort 10 1;sort 9 1;sort 1 1;");
+        check.dueAll("closed at once", first, BinProver::tree, 2, 1, 1, 1, 0, 0);
+        check.dueAll("the first bin", first, (y, i) -> y.best(0, i), 1, 0, 0, 1);
+        check.dueAll("the second bin", first, (y, i) -> y.best(1, i), 0, 1, 1, 0);
         check.term(2, "with each MAXIMAL PATTERN of what is left that has any of the first SORT by the ORDER of which any is left");
         BinProver like = check.told("capacity 13;sort 3 0;sort 3 2;sort 6 1;sort 4 2;sort 6 1;");
         check.dueAll("like ones, and one that isn't there", like, BinProver::tree, 2, 1, 5, 2, 1, 2);
@@ -474,6 +512,11 @@ public final class ProofEdgeTest {
     }
 
     private static void tree() {
+        check.promise(16, "5 the most BINS chosen at a NODE that was met.");
+        BinProver two = check.told("capacity 13;sort 6 2;sort 4 2;sort 3 2;");
+        check.due("two", two.tree(5), 2);
+        check.due("one thing goes", two.rest(0, 1), 2);
+        check.dueAll("closed at once", two, BinProver::tree, 2, 1, 1, 1, 0, 0);
         check.promise(16, "NoSuchElementException: another what.");
         check.noElement("-1", ProofEdgeTest::three, x -> x.tree(-1));
         check.noElement("6", ProofEdgeTest::three, x -> x.tree(6));
@@ -498,6 +541,11 @@ public final class ProofEdgeTest {
         check.dueAll("16", six, (y, i) -> y.best(i, 2), 1, 1, 1, 1, 0, 0);
         check.dueAll("13", six, (y, i) -> y.best(i, 3), 1, 1, 1, 1, 2, 2);
         check.noElement("a bin of rule 5", () -> six, y -> y.best(6, 0));
+        BinProver less = check.told("capacity 10;sort 6 1;sort 5 1;");
+        check.due("the 6", less.best(0, 0), 1);
+        check.due("it goes", less.rest(0, 0), 1);
+        check.due("no 6 any more", less.best(0, 0), 0);
+        check.due("the 5", less.best(0, 1), 1);
         check.promise(17, "NoSuchElementException: there is none, no such SORT.");
         check.noElement("-1", ProofEdgeTest::three, y -> y.best(-1, 0));
         check.noElement("3", ProofEdgeTest::three, y -> y.best(3, 0));
@@ -524,6 +572,8 @@ public final class ProofEdgeTest {
         check.dueAll("two fit just", check.told("capacity 10;sort 5 3;"), BinProver::net, 4, 3, 3, 2, 3, 3);
         check.dueAll("one fits", check.told("capacity 9;sort 5 3;"), BinProver::net, 3, 2, 2, 2, 2, 2);
         check.dueAll("to 99", check.told("capacity 99;sort 33 3;"), BinProver::net, 5, 4, 4, 2, 4, 4);
+        check.dueAll("on from 10", check.told("capacity 10;sort 10 1;sort 1 1;"), BinProver::net, 6, 5, 3, 4, 5, 3);
+        check.dueAll("on from 99", check.told("capacity 99;sort 99 1;sort 1 1;"), BinProver::net, 6, 5, 3, 4, 5, 3);
         check.dueAll("to 99, not beyond", check.told("capacity 99;sort 50 3;"), BinProver::net, 3, 2, 2, 2, 2, 2);
         check.promise(18, "NoSuchElementException: another what.");
         check.noElement("-1", ProofEdgeTest::three, x -> x.net(-1));
@@ -560,6 +610,12 @@ public final class ProofEdgeTest {
         check.due("at the end", check.told("capacity 10;sort 5 3;").high(1, 10), 10);
         check.due("at 99", check.told("capacity 99;sort 33 3;").high(1, 99), 99);
         check.due("of none", new BinProver().high(0, 0), 30);
+        BinProver less = check.told("capacity 99;sort 1 1;sort 2 1;");
+        check.due("2 and 1", less.high(0, 0), 96);
+        check.due("1", less.high(1, 0), 98);
+        check.due("the 2 goes", less.rest(1, 0), 1);
+        check.due("1", less.high(0, 0), 98);
+        check.due("that layer is the last one now", less.high(1, 0), 99);
         check.promise(19, "HIGH of a POINT. NoSuchElementException: there is no such LAYER, POINT.");
         check.noElement("layer -1", ProofEdgeTest::three, x -> x.high(-1, 0));
         check.due("layer 3", three().high(3, 0), 10);

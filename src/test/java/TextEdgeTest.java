@@ -84,6 +84,9 @@ public final class TextEdgeTest {
         check.faulty("sor 1 1;", 1, 0);
         check.faulty("bi 0;", 1, 0);
         check.faulty("Sort 1 1;", 1, 0);
+        for (String word : new String[] {"capacity", "sort", "bin"}) {
+            nearlyWords(word);
+        }
         check.faulty("sort` 1 1;", 1, 4);
         check.faulty("sort{ 1 1;", 1, 4);
         check.term(1, "NUMBERS (1 to 3 digits)");
@@ -101,6 +104,19 @@ public final class TextEdgeTest {
         check.fine(" \n ");
         for (int sign : new int[] {0, 9, 11, 13, 31, 33, 127, 128, 160, 255, 32 + 128, 10 + 128}) {
             check.faulty("sort 1 1;" + (char) sign, 1, 9);
+        }
+    }
+
+    /** Each letter of a word in turn is another one, is missing, is there twice. */
+    private static void nearlyWords(String word) {
+        for (int i = 0; i < word.length(); i++) {
+            String ahead = word.substring(0, i);
+            String behind = word.substring(i + 1);
+            char letter = word.charAt(i);
+            check.faulty(ahead + (letter == 'z' ? 'a' : (char) (letter + 1)) + behind + " 1 1;", 1, 0);
+            check.faulty(ahead + (letter == 'a' ? 'z' : (char) (letter - 1)) + behind + " 1 1;", 1, 0);
+            check.faulty(ahead + behind + " 1 1;", 1, 0);
+            check.faulty(ahead + letter + letter + behind + " 1 1;", 1, 0);
         }
     }
 
