@@ -316,7 +316,7 @@ public final class AskEdgeTest {
         dueLook("capacity 4;sort 1 2;sort 4 2;", new int[] {3, 3, 3, 3}, 2, 5);
         // 2 2 3 1 and 1 1 2 1: 3 and 2 by rule 4, 2 and 2 by those ahead of it
         dueLook("capacity 4;sort 1 2;sort 3 1;sort 1 1;", new int[] {2}, 2, 4);
-        // not by hand: two models that were written apart from the class give the same
+        // not by hand: the program's own answers, which the second model of NOTES.md gives as well
         dueLook("capacity 13;sort 3 2;sort 3 1;sort 8 1;sort 4 1;", new int[] {2, 2, 2, 2, 3, 2, 2}, 2, 7);
         check.term(3, "which; how many unlike; none without any");
         check.due("note", x.note(0, 24), 2);

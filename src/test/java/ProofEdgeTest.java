@@ -504,7 +504,7 @@ public final class ProofEdgeTest {
 
     private static void treeCut() {
         check.term(2, "is the 61st NODE to be met, all ends (CUT)");
-        // not by hand: two models that were written apart from the class give the same
+        // not by hand: the program's own answers, which two models give as well
         check.dueAll("the 60th is the last", check.told("capacity 31;sort 12 4;sort 10 4;sort 13 6;"), BinProver::tree,
                 7, 1, 60, 39, 0, 4);
         check.dueAll("the 61st would be", check.told("capacity 10;sort 3 4;sort 3 5;sort 4 8;sort 3 7;"), BinProver::tree,
